@@ -4,6 +4,7 @@ public final class BranchesTest {
 
     public static void main(String[] args) {
         part();
+        branchesAreMonic();
         branchesInTheirOrder();
         partByDegrees();
         join();
@@ -30,6 +31,17 @@ public final class BranchesTest {
         x.undo();
         CHECK.due("undone", x.count(2), 2);
         CHECK.due("the number stays", x.number(1, 2), 1);
+    }
+
+    private static void branchesAreMonic() {
+        SplitTowers x = Check.withModulus(7, "0,6,0,1");
+        Check.assign(x, "a=3*x");
+        CHECK.due("part(0)", x.part(0), 1);
+        CHECK.branch(x, 0, 0, 1);
+        CHECK.branch(x, 1, 6, 0, 1);
+        Check.assign(x, "a=1/(4*x^2+3*x)");
+        CHECK.branch(x, 1, 1, 1);
+        CHECK.branch(x, 2, 6, 1);
     }
 
     private static void branchesInTheirOrder() {

@@ -83,6 +83,11 @@ public final class NumbersTest {
         CHECK.branch(z, 0, 1, 1);
         CHECK.branch(z, 1, 0, 4, 1);
         assigned(z, "a=1/(1/(1/x))", 3, 0, 1, 0);
+        SplitTowers v = Check.withModulus(2, "1,1,0,0,0,0,1");
+        assigned(v, "a=1/(x^5+x^2+1)", 1, 1, 0, 0, 1, 0, 0);
+        assigned(v, "b=a*(x^5+x^2+1)", 1, 1, 0, 0, 0, 0, 0);
+        assigned(v, "c=(x^4+x)/(x^3+x+1)/x", 1, 1, 0, 0, 1, 1, 1);
+        assigned(v, "d=c*x*(x^3+x+1)", 1, 0, 1, 0, 0, 1, 0);
         SplitTowers w = Check.withModulus(5, "0,4,0,1");
         assigned(w, "a=x*0/x+0/(x-1)*0", 3, 0, 0, 0);
     }

@@ -197,6 +197,7 @@ public final class ToldTest {
         Check.assign(x, "a=1/x");
         Check.assign(x, "f=3");
         CHECK.row("count(..)", x::count, 7, 5, 2, 4, 4, 4, 4, 3);
+        CHECK.due("count(3)", Check.withModulus(2, "1,1,0,0,0,0,1").count(3), 1);
         CHECK.due("count(8)", x.count(8), SplitTowers.BAD_VALUE);
         CHECK.due("count(-1)", x.count(-1), SplitTowers.BAD_VALUE);
         CHECK.due("count(MAX)", x.count(Integer.MAX_VALUE), SplitTowers.BAD_VALUE);
