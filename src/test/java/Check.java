@@ -1,6 +1,7 @@
 /** Counts the answers that are not as due, and tells them. */
 final class Check {
     private final String name;
+    private String sentence = "";
     private int made;
     private int wrong;
 
@@ -12,8 +13,13 @@ final class Check {
         made++;
         if (got != want) {
             wrong++;
-            System.out.println(name + ": " + call + " answered " + got + ", due is " + want);
+            System.out.println(name + ": " + sentence + call + " answered " + got + ", due is " + want);
         }
+    }
+
+    /** The words of the document that the answers from here on are due to. */
+    void sentence(String words) {
+        sentence = "\"" + words + "\": ";
     }
 
     void that(String what, boolean holds) {
