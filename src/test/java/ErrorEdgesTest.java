@@ -95,7 +95,7 @@ public final class ErrorEdgesTest {
         refused("branch(0, MIN)", bad, x -> x.branch(0, LOW));
         refused("modulus(MIN)", bad, x -> x.modulus(LOW));
         refused("leastPolynomial(0, MIN)", bad, x -> x.leastPolynomial(0, LOW));
-        CHECK.sentence("NOT_POSSIBLE; NONE if there are no two to be joined");
+        CHECK.sentence("NONE if there are no two to be joined");
         Twins one = new Twins(CHECK, x -> {
             parted(x);
             x.join(0, 1);

@@ -20,6 +20,8 @@ public final class HistoryEdgesTest {
         snapshotStays();
         allButTheTextTheHistoryAndTheSnapshot();
         statesAreKeptApart();
+        greatestState();
+        objectsAreKeptApart();
         keepTellsTheBranches();
         undoOfNoHistory();
         fiveHundredAndTwelveCalls();
@@ -357,6 +359,69 @@ public final class HistoryEdgesTest {
         CHECK.due("restore() again", x.restore(), 4);
         CHECK.branch(x, 0, 4, 1);
         CHECK.branch(x, 3, 6, 4, 6, 1);
+    }
+
+    private static void greatestState() {
+        CHECK.sentence("A state is everything but the text, the history and the snapshot");
+        SplitTowers x = Check.withModulus(7, "6,0,0,0,0,0,1");
+        Check.assign(x, "a=0/(x-1)+0/(x-2)+0/(x-3)+0/(x-4)+0/(x-5)");
+        CHECK.due("six branches", x.keep(), 6);
+        for (int register = 0; register < 6; register++) {
+            for (int k = 0; k < 6; k++) {
+                x.setNumber(register, k, 6);
+            }
+        }
+        x.keep();
+        anotherGreatState(x);
+        CHECK.due("undo()", x.undo(), 3);
+        CHECK.due("undo()", x.undo(), 2);
+        CHECK.due("undo()", x.undo(), 1);
+        greatestStateIsThere(x);
+        anotherGreatState(x);
+        CHECK.due("restore()", x.restore(), 6);
+        greatestStateIsThere(x);
+    }
+
+    private static void anotherGreatState(SplitTowers x) {
+        x.setPrime(11);
+        Check.readModulus(x, "0,10,10,5,8,4,1");
+        Check.assign(x, "f=x^5+0/x+0/(x+1)+0/(x+2)+0/(x+3)+0/(x+4)");
+        CHECK.due("count(2)", x.count(2), 6);
+        CHECK.branch(x, 5, 5, 1);
+    }
+
+    private static void greatestStateIsThere(SplitTowers x) {
+        CHECK.modulus(x, 6, 0, 0, 0, 0, 0, 1);
+        for (int k = 0; k < 6; k++) {
+            CHECK.number(x, k, 6, 6, 6, 6, 6, 6);
+            CHECK.branch(x, k, k + 1, 1);
+        }
+        CHECK.due("count(2)", x.count(2), 6);
+    }
+
+    private static void objectsAreKeptApart() {
+        CHECK.sentence("There is one snapshot, empty at first");
+        SplitTowers x = new SplitTowers();
+        x.setPrime(7);
+        x.keep();
+        Check.text(x, "a=3");
+        SplitTowers y = new SplitTowers();
+        CHECK.due("restore() of another object", y.restore(), SplitTowers.NONE);
+        CHECK.due("undo() of another object", y.undo(), SplitTowers.NONE);
+        CHECK.due("clearText() of another object", y.clearText(), 0);
+        CHECK.row("count(..) of another object", y::count, 5, 1, 1, 1, 1, 6, 0, 0);
+        CHECK.due("restore() of the first one", x.restore(), 1);
+        y.setPrime(11);
+        y.keep();
+        CHECK.due("assign() of the first one", x.assign(), 1);
+        CHECK.due("undo()", x.undo(), 2);
+        CHECK.due("restore()", x.restore(), 1);
+        CHECK.due("count(0)", x.count(0), 7);
+        for (int left = 2; left >= 0; left--) {
+            CHECK.due("undo()", x.undo(), left);
+        }
+        CHECK.due("count(0)", x.count(0), 5);
+        CHECK.due("count(0) of another object", y.count(0), 11);
     }
 
     private static void keepTellsTheBranches() {

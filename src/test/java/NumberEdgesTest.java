@@ -213,6 +213,16 @@ public final class NumberEdgesTest {
         assigned(x, "a=1/(x+2)/(x+3)*(x^2+1)", 1, 1, 0, 0);
         assigned(x, "a=(x^2+1)/(x^2+1)", 1, 1, 0, 0);
         assigned(x, "a=1/(x^3-x)", 1, 0, 0, 0);
+        assigned(x, "a=1/5", 1, 0, 0, 0);
+        assigned(x, "a=x/(5*x)", 1, 0, 0, 0);
+        assigned(x, "a=x/6", 1, 0, 1, 0);
+        SplitTowers y = Check.withModulus(2, "0,1,1");
+        for (int digit = 0; digit <= 9; digit++) {
+            assigned(y, "a=x/" + digit, 1, 0, digit % 2);
+        }
+        SplitTowers z = Check.withModulus(7, "0,6,0,1");
+        assigned(z, "a=x/7", 1, 0, 0, 0);
+        assigned(z, "a=x/8", 1, 0, 1, 0);
     }
 
     private static void divisorThatParts() {

@@ -123,7 +123,7 @@ public final class TextEdgesTest {
     }
 
     private static void charactersOfAssignments() {
-        CHECK.sentence("simple = a letter a to f | \"x\" | a digit | \"(\" expression \")\"");
+        CHECK.sentence("simple = a letter a to f (the number in the register) | \"x\" | a digit (the constant, modulo p)");
         behind(true, "", "", "abcdef");
         behind(true, "c", "", "=");
         behind(true, "a=", SIMPLES, "(");

@@ -341,6 +341,9 @@ public final class ToldEdgesTest {
         order(x, "4", 2);
         x.setPrime(2);
         order(x, "1", 1);
+        x.setPrime(3);
+        order(x, "1", 1);
+        order(x, "2", 2);
         x.setPrime(13);
         int[] orders = {1, 12, 3, 6, 4, 12, 12, 4, 3};
         for (int k = 1; k <= 9; k++) {
@@ -358,11 +361,30 @@ public final class ToldEdgesTest {
         order(z, "x^9", 7);
         SplitTowers w = Check.withModulus(2, "1,1,1,1,0,1,1");
         order(w, "x", 31);
+        ordersInSeveralFields();
         // The greatest that there can be, 13^6 - 1, which is greater than the exponents of powers may be.
         SplitTowers v = Check.withModulus(13, "4,1,0,0,0,0,1");
         order(v, "x", 2413404);
         order(v, "x+3", 4826808);
         order(v, "x+4", 201117);
+    }
+
+    /** The order is the least multiple of those in the fields, which have 3 and 7, 31 and 1, and 24 and 4 numbers but 0. */
+    private static void ordersInSeveralFields() {
+        SplitTowers x = Check.withModulus(2, "1,0,0,0,1,1");
+        order(x, "x", 21);
+        order(x, "x^3", 7);
+        order(x, "x^7", 3);
+        SplitTowers y = Check.withModulus(2, "1,1,1,1,0,1,1");
+        order(y, "x", 31);
+        SplitTowers z = Check.withModulus(5, "2,3,4,1");
+        // x is 1 in the branch x+4, and x^2 is 2 in the other one.
+        order(z, "x", 8);
+        order(z, "x^2", 4);
+        order(z, "x^4", 2);
+        order(z, "2*x", 8);
+        // It is 1 in the branch x+4, and 2x-1 in the other one.
+        order(z, "2*x-1", 24);
     }
 
     private static void ordersThatThereAreNot() {
