@@ -6,6 +6,9 @@ public final class ToldEdgesTest {
     /** A modulus of each degree over 7; that of degree 6 has the roots 1 to 6. */
     private static final String[] MODULI = {"4,1", "0,1,1", "0,6,0,1", "6,0,0,0,1", "0,6,0,0,0,1", "6,0,0,0,0,0,1"};
 
+    /** How many irreducible factors they have: x^4 - 1 is (x^2 + 1)(x + 1)(x - 1), and x^5 - x is this times x. */
+    private static final int[] FACTORS = {1, 2, 3, 3, 4, 6};
+
     public static void main(String[] args) {
         modulusToItsDegree();
         numbersBelowTheDegree();
@@ -428,6 +431,11 @@ public final class ToldEdgesTest {
         CHECK.row("count(..)", x::count, 5, 1, 1, 1, 1, 6, 0, 0, SplitTowers.BAD_VALUE);
         for (int no : new int[] {-1, 8, 9, FAR, LOW}) {
             CHECK.due("count(" + no + ")", x.count(no), SplitTowers.BAD_VALUE);
+        }
+        String[] ofTwo = {"0,1", "1,1,1", "1,1,0,1", "1,1,0,0,1", "1,0,1,0,0,1", "1,1,0,0,0,0,1"};
+        for (int degree = 1; degree <= 6; degree++) {
+            CHECK.due("count(3) of an irreducible one", Check.withModulus(2, ofTwo[degree - 1]).count(3), 1);
+            CHECK.due("count(3) of several", Check.withModulus(7, MODULI[degree - 1]).count(3), FACTORS[degree - 1]);
         }
         // x(x^2+x+1)(x^3+x+1) over 2, with the branches x and all the rest.
         SplitTowers y = Check.withModulus(2, "0,1,0,0,0,1,1");
