@@ -46,9 +46,12 @@ public final class ModelTest {
         }
     }
 
+    /** What calls behind the 512th one answer is free. */
     private void same(String call, int got, int want) {
         calls++;
-        check.due("run " + run + ", call " + calls + ": " + call, got, want);
+        if (calls <= CALLS) {
+            check.due("run " + run + ", call " + calls + ": " + call, got, want);
+        }
     }
 
     private int pick(int bound) {
@@ -63,11 +66,11 @@ public final class ModelTest {
     }
 
     private int branch() {
-        return pick(x.count(2) + (random.nextInt(9) == 0 ? 1 : 0));
+        return pick(m.count(2) + (random.nextInt(9) == 0 ? 1 : 0));
     }
 
     private int place() {
-        return pick(x.count(1) + (random.nextInt(6) == 0 ? 2 : 0));
+        return pick(m.count(1) + (random.nextInt(6) == 0 ? 2 : 0));
     }
 
     private void text(String text) {
@@ -96,7 +99,7 @@ public final class ModelTest {
                 break;
             case 2: case 3: case 4: case 5: case 6: {
                 int n = place();
-                int v = pick(x.count(0) + random.nextInt(2));
+                int v = pick(m.count(0) + random.nextInt(2));
                 same("setNumber(" + a + ", " + n + ", " + v + ")", x.setNumber(a, n, v), m.setNumber(a, n, v));
                 break;
             }
@@ -203,7 +206,7 @@ public final class ModelTest {
     // ---- texts
 
     private String polynomialText() {
-        int p = x.count(0);
+        int p = m.count(0);
         StringBuilder text = new StringBuilder();
         for (int k = random.nextInt(7); k > 0; k--) {
             text.append(random.nextInt(p + random.nextInt(2))).append(',');
@@ -216,7 +219,7 @@ public final class ModelTest {
         if (random.nextInt(4) == 0) {
             return polynomialText();
         }
-        int p = x.count(0);
+        int p = m.count(0);
         int[] product = {1};
         int degree = 1 + random.nextInt(6);
         while (product.length <= degree) {
