@@ -79,22 +79,30 @@ public final class PromisesTest {
         CHECK.sentence("Makes the polynomial of the text, which stays, the modulus; "
             + "the numbers in the registers become their rests by it.");
         SplitTowers x = threeRoots();
-        Check.assign(x, "b=x^2+5");
+        Check.assign(x, "a=3*x^2+x");
+        for (int register = 1; register < 6; register++) {
+            x.setNumber(register, 2, 1);
+            x.setNumber(register, 0, register);
+        }
         CHECK.due("readModulus()", Check.readModulus(x, "6,0,1"), 2);
         CHECK.due("count(7)", x.count(7), 5);
         CHECK.modulus(x, 6, 0, 1);
         CHECK.due("count(2)", x.count(2), 1);
-        CHECK.number(x, 0, 0, 1);
-        CHECK.number(x, 1, 6, 0);
+        CHECK.number(x, 0, 3, 1);
+        for (int register = 1; register < 6; register++) {
+            CHECK.number(x, register, register + 1, 0);
+        }
         CHECK.due("undo()", x.undo(), 3);
-        CHECK.number(x, 1, 5, 0, 1);
+        CHECK.number(x, 0, 0, 1, 3);
+        CHECK.number(x, 5, 5, 0, 1);
         CHECK.due("count(2)", x.count(2), 3);
         CHECK.sentence("Returns its degree; -100 minus the fault of the text, read as a polynomial, if it has one (which is "
             + "an error); BAD_VALUE if any coefficient is p or more, or it is not monic as it is told (its last coefficient "
             + "is not 1), or its degree is 0; NOT_POSSIBLE if it has a square as a factor; NONE if it is the modulus "
             + "already.");
         String[] texts = {"6,0,1,", "6,0,x", "", "7,0,1", "6,9,1", "6,0,3", "6,1,0", "1", "0", "2,3,1", "1,2,1", "1,4,1,1"};
-        int[] due = {-106, -104, -100, BAD_VALUE, BAD_VALUE, BAD_VALUE, BAD_VALUE, BAD_VALUE, BAD_VALUE, 2, NOT_POSSIBLE, NONE};
+        int[] due = {-106, -104, -100, BAD_VALUE, BAD_VALUE, BAD_VALUE, BAD_VALUE, BAD_VALUE, BAD_VALUE, 2, NOT_POSSIBLE,
+            NONE};
         for (int k = 0; k < texts.length; k++) {
             SplitTowers y = threeRoots();
             CHECK.due("readModulus of " + texts[k], Check.readModulus(y, texts[k]), due[k]);
@@ -164,6 +172,7 @@ public final class PromisesTest {
         CHECK.number(x, 1, 5, 0, 0);
         CHECK.due("undo()", x.undo(), 3);
         CHECK.number(x, 0, 0, 1, 0);
+        CHECK.number(x, 1, 5, 0, 0);
         CHECK.sentence("Returns in how many branches the number becomes another one; UNKNOWN (register, branch or other); "
             + "BAD_VALUE if both registers are the same; NONE if in none.");
         Check.assign(x, "b=3");
@@ -248,6 +257,11 @@ public final class PromisesTest {
         CHECK.due("joinAlike(6)", x.joinAlike(6), UNKNOWN);
         CHECK.due("joinAlike(5), which is 0 in all", x.joinAlike(5), 1);
         CHECK.due("joinAlike(5) again", x.joinAlike(5), NONE);
+        SplitTowers y = threeRoots();
+        Check.assign(y, "b=(x-1)*(x-2)");
+        CHECK.due("joinAlike(1), which is nothing in the greater one", y.joinAlike(1), 2);
+        CHECK.branch(y, 0, 4, 1);
+        CHECK.branch(y, 1, 2, 4, 1);
     }
 
     private static void type() {
@@ -430,6 +444,10 @@ public final class PromisesTest {
         Check.assign(x, "b=2*(x-2)*(x-3)");
         CHECK.row("leastPolynomial(1, ..)", k -> x.leastPolynomial(1, k), 0, 3, 1, NONE);
         CHECK.row("leastPolynomial(0, ..)", k -> x.leastPolynomial(0, k), 1, 4, 1, 1, NONE);
+        // x^6 is 2 there, so that (x-1)^6 - 2 is 0 if x + 1 is put in the place of x.
+        SplitTowers y = Check.withModulus(7, "5,0,0,0,0,0,1");
+        Check.assign(y, "c=x+1");
+        CHECK.row("leastPolynomial(2, ..)", k -> y.leastPolynomial(2, k), 6, 1, 1, 1, 1, 1, 1, NONE);
         CHECK.sentence("Returns its coefficient; UNKNOWN; BAD_VALUE if number is negative; "
             + "NONE if it is greater than its degree.");
         CHECK.row("leastPolynomial(5, ..)", k -> x.leastPolynomial(5, k), 0, 1, NONE);
@@ -471,6 +489,14 @@ public final class PromisesTest {
         CHECK.due("order of 0", x.order(5), NONE);
         CHECK.due("order(6)", x.order(6), UNKNOWN);
         CHECK.due("order(-1)", x.order(-1), UNKNOWN);
+        // x is of the order 63 modulo x^6 + x + 1 over 2, and of the orders 3 and 7 modulo x^2 + x + 1 and x^3 + x + 1.
+        String[] moduli = {"1,1,0,0,0,0,1", "1,0,0,0,1,1", "1,1,1", "1,1,0,1", "1,1,0,0,1", "1,0,1,0,0,1"};
+        int[] orders = {63, 21, 3, 7, 15, 31};
+        for (int k = 0; k < moduli.length; k++) {
+            SplitTowers y = Check.withModulus(2, moduli[k]);
+            Check.assign(y, "a=x");
+            CHECK.due("order of x modulo " + moduli[k], y.order(0), orders[k]);
+        }
     }
 
     private static void factors() {
@@ -480,6 +506,9 @@ public final class PromisesTest {
         CHECK.due("factors(-1)", x.factors(-1), BAD_VALUE);
         x.partByDegrees();
         CHECK.row("factors(..) of those that are parted", x::factors, BAD_VALUE, 2, 2, 0, 0, 0, 0, BAD_VALUE);
+        SplitTowers y = Check.withModulus(2, "1,1,0,0,0,0,1");
+        CHECK.row("factors(..) of an irreducible one", y::factors, BAD_VALUE, 0, 0, 0, 0, 0, 1, BAD_VALUE);
+        CHECK.due("count(3)", y.count(3), 1);
     }
 
     private static void count() {
@@ -488,6 +517,11 @@ public final class PromisesTest {
         Check.assign(x, "c=1/(x+1)");
         Check.text(x, "c=");
         CHECK.row("count(..)", x::count, 3, 6, 2, 4, 5, 5, 3, 2, BAD_VALUE);
+        for (int register = 0; register < 6; register++) {
+            x.setNumber(register, 0, 1);
+            x.setNumber(register, 1, 0);
+        }
+        CHECK.due("count(5) if all are constants", x.count(5), 0);
         CHECK.due("count(-1)", x.count(-1), BAD_VALUE);
         CHECK.due("count(MAX)", x.count(Integer.MAX_VALUE), BAD_VALUE);
     }

@@ -108,6 +108,8 @@ public final class TextTermsTest {
             String text = "a=3+" + "(".repeat(open) + "1" + ")".repeat(open) + "*(2)";
             CHECK.due(text, Check.assign(new SplitTowers(), text), open <= 5 ? 1 : FAULT - 9);
         }
+        // From the inner ones: 5, 4-10 = -6, 3+12 = 15, 2-30 = -28, 1+56 = 57 and 9-57 = -48, which is 7.
+        value(Check.withModulus(11, "3,1"), "a=9-(1-2*(2-2*(3-2*(4-2*(5)))))", 7);
     }
 
     private static void value(SplitTowers x, String text, int... want) {
